@@ -373,6 +373,10 @@ public final class PromiseTests {
         x.put(3, 0, 1, 3);
         due("13: wraps in the product", x.rowsProduct(2, 5, 3, 0), 0);
         SparseKernels y = full();
+        // Rows 1 2 3 4 5 6 and 55 56 57 58 59 60; the cells after them are not 0 either.
+        due("13: full rows", y.rowsProduct(0, 0, 1, 3), 55 + 112 + 171 + 232 + 295 + 360);
+        // The last row of all ends where the cells do.
+        due("13: the last row", y.rowsProduct(0, 0, 4, 5), 175 + 352 + 531 + 712 + 895 + 1080);
         for (int s : NO_SLOT) {
             due("13: slot a " + s, y.rowsProduct(s, 0, 1, 0), 0);
             due("13: slot b " + s, y.rowsProduct(1, 0, s, 0), 0);
