@@ -1,17 +1,10 @@
-import java.util.Arrays;
-
 /**
  * At least one test for each promise of the document: ordinary inputs, edges and wrong inputs.
  * No object gets more than the 512 calls that the document allows it.
  */
-public final class PromiseTests {
-    private static final int NONE = -1;
-    private static final int MIN = Integer.MIN_VALUE;
-    private static final int MAX = Integer.MAX_VALUE;
+public final class PromiseTests extends Checks {
     private static final int[] NO_SLOT = {-1, 5, 6, 7, 8, -5, MIN, MAX};
     private static final int[] NO_LINE = {-1, 6, 7, -6, 36, MIN, MAX};
-
-    private static int wrong = 0;
 
     public static void main(String[] args) {
         newObject();
@@ -34,10 +27,7 @@ public final class PromiseTests {
         refusalsChangeNothing();
         targetMayBeRead();
         answersAreTheCount();
-        System.out.println(wrong == 0 ? "all answers are as due" : wrong + " answers are not as due");
-        if (wrong != 0) {
-            System.exit(1);
-        }
+        finish();
     }
 
     // Promise 1
@@ -536,8 +526,8 @@ public final class PromiseTests {
     private static void targetMayBeReadIn(int call, int t, int a, int b) {
         SparseKernels x = filled();
         int[] want = filledCells();
-        int[] left = Arrays.copyOfRange(want, a * 36, a * 36 + 36);
-        int[] right = Arrays.copyOfRange(want, b * 36, b * 36 + 36);
+        int[] left = slot(want, a);
+        int[] right = slot(want, b);
         int[] made = call == 2 || call == 3 ? plainProduct(left, right) : new int[36];
         for (int k = 0; k < 36; k++) {
             switch (call) {
@@ -575,95 +565,5 @@ public final class PromiseTests {
         due("17: transpose", x.transpose(4, 0), x.count(4));
         due("17: scale", x.scale(4, 0, 65536), x.count(4));
         due("17: select", x.select(4, 0, 21 + 64 * 42), x.count(4));
-    }
-
-    /** Sparse slots, no two alike, with entries of both signs. */
-    private static int[] filledCells() {
-        int[] held = new int[180];
-        for (int k = 0; k < 180; k++) {
-            held[k] = k * 7919 % 101 % 3 == 0 ? k * k % 47 - 23 : 0;
-        }
-        return held;
-    }
-
-    private static SparseKernels filled() {
-        SparseKernels x = new SparseKernels();
-        int[] held = filledCells();
-        for (int s = 0; s < 5; s++) {
-            fill(x, s, Arrays.copyOfRange(held, s * 36, s * 36 + 36));
-        }
-        return x;
-    }
-
-    /** Puts no 0, so that an object's 512 calls go further. */
-    private static void fill(SparseKernels x, int s, int[] matrix) {
-        for (int k = 0; k < 36; k++) {
-            if (matrix[k] != 0) {
-                x.put(s, k / 6, k % 6, matrix[k]);
-            }
-        }
-    }
-
-    /** Every cell holds another number, none of them 0. */
-    private static SparseKernels full() {
-        SparseKernels x = new SparseKernels();
-        for (int k = 0; k < 180; k++) {
-            x.put(k / 36, k / 6 % 6, k % 6, k + 1);
-        }
-        return x;
-    }
-
-    private static int[] plainProduct(int[] a, int[] b) {
-        int[] made = new int[36];
-        for (int n = 0; n < 216; n++) {
-            int i = n / 36;
-            int j = n / 6 % 6;
-            int k = n % 6;
-            made[i * 6 + j] += a[i * 6 + k] * b[k * 6 + j];
-        }
-        return made;
-    }
-
-    private static int nonZero(int[] matrix) {
-        return (int) Arrays.stream(matrix).filter(v -> v != 0).count();
-    }
-
-    private static int[] slot(SparseKernels x, int s) {
-        int[] held = new int[36];
-        for (int k = 0; k < 36; k++) {
-            held[k] = x.at(s, k / 6, k % 6);
-        }
-        return held;
-    }
-
-    private static int[] snapshot(SparseKernels x) {
-        int[] held = new int[180];
-        for (int k = 0; k < 180; k++) {
-            held[k] = x.at(k / 36, k / 6 % 6, k % 6);
-        }
-        return held;
-    }
-
-    private static void due(String call, int got, int want) {
-        if (got != want) {
-            tell(call, "" + got, "" + want);
-        }
-    }
-
-    private static void due(String call, boolean got, boolean want) {
-        if (got != want) {
-            tell(call, "" + got, "" + want);
-        }
-    }
-
-    private static void due(String call, int[] got, int[] want) {
-        if (!Arrays.equals(got, want)) {
-            tell(call, Arrays.toString(got), Arrays.toString(want));
-        }
-    }
-
-    private static void tell(String call, String got, String want) {
-        wrong++;
-        System.out.println(call + " answered " + got + ", due is " + want);
     }
 }
