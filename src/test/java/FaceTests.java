@@ -1,12 +1,12 @@
-import java.lang.reflect.Constructor;
 import java.lang.reflect.Field;
-import java.lang.reflect.Method;
+import java.lang.reflect.Member;
 import java.lang.reflect.Modifier;
 import java.util.Set;
 import java.util.TreeSet;
 
 /** The class has the public face of the document, and every other member is private. */
-public final class FaceTests {
+public final class FaceTests extends Checks {
+    private static final Class<?> TYPE = SparseKernels.class;
     private static final Set<String> FACE = Set.of(
             "public SparseKernels()",
             "public static final int SparseKernels.NONE",
@@ -27,25 +27,55 @@ public final class FaceTests {
             "public boolean SparseKernels.symmetric(int)");
 
     public static void main(String[] args) {
+        members();
+        nothingFromElsewhere();
+        noneIsAConstant(-1);
+        nothingIsSharedByObjects();
+        finish();
+    }
+
+    // "The public face": these members, with these names and types, and no others
+    private static void members() {
         Set<String> seen = new TreeSet<>();
-        Class<?> type = SparseKernels.class;
-        for (Constructor<?> member : type.getDeclaredConstructors()) {
-            seen.add(member.toString());
-        }
-        for (Field member : type.getDeclaredFields()) {
+        addVisible(seen, TYPE.getDeclaredConstructors());
+        addVisible(seen, TYPE.getDeclaredFields());
+        addVisible(seen, TYPE.getDeclaredMethods());
+        due("face: members", seen, new TreeSet<>(FACE));
+        due("face: nested classes", TYPE.getDeclaredClasses().length, 0);
+    }
+
+    private static void addVisible(Set<String> seen, Member[] members) {
+        for (Member member : members) {
             if (!Modifier.isPrivate(member.getModifiers())) {
                 seen.add(member.toString());
             }
         }
-        for (Method member : type.getDeclaredMethods()) {
-            if (!Modifier.isPrivate(member.getModifiers())) {
-                seen.add(member.toString());
-            }
+    }
+
+    // "public final class SparseKernels", with no members that come from another type
+    private static void nothingFromElsewhere() {
+        due("face: class", Modifier.toString(TYPE.getModifiers()) + " class " + TYPE.getName(),
+                "public final class SparseKernels");
+        due("face: superclass", TYPE.getSuperclass().getName(), "java.lang.Object");
+        due("face: interfaces", TYPE.getInterfaces().length, 0);
+    }
+
+    // "public static final int NONE = -1": as the label of a case it must be a constant to compile
+    private static void noneIsAConstant(int number) {
+        switch (number) {
+            case SparseKernels.NONE:
+                break;
+            default:
+                due("face: NONE", SparseKernels.NONE, number);
         }
-        boolean asDue = seen.equals(FACE) && Modifier.toString(type.getModifiers()).equals("public final");
-        System.out.println(asDue ? "the face is as due" : "the face is " + seen + ", due is " + new TreeSet<>(FACE));
-        if (!asDue) {
-            System.exit(1);
+    }
+
+    // Promise 1: what a new object holds, it holds alone
+    private static void nothingIsSharedByObjects() {
+        for (Field field : TYPE.getDeclaredFields()) {
+            boolean constant = Modifier.isFinal(field.getModifiers()) && field.getType().isPrimitive();
+            due("face: " + field.getName() + " is a constant or of one object",
+                    constant || !Modifier.isStatic(field.getModifiers()), true);
         }
     }
 }

@@ -8,6 +8,7 @@ public final class PromiseTests extends Checks {
 
     public static void main(String[] args) {
         newObject();
+        objectsAreApart();
         put();
         add();
         entrywise();
@@ -38,8 +39,25 @@ public final class PromiseTests extends Checks {
         for (int s = 0; s < 5; s++) {
             due("1: count " + s, x.count(s), 0);
         }
-        x.put(0, 0, 0, 1);
-        due("1: objects are apart", new SparseKernels().at(0, 0, 0), 0);
+    }
+
+    // Promise 1: each object has matrices of its own, whatever is made and called after it
+    private static void objectsAreApart() {
+        SparseKernels first = filled();
+        SparseKernels second = full();
+        SparseKernels third = new SparseKernels();
+        due("1: the first, with two more made", snapshot(first), filledCells());
+        due("1: the third, all 0", snapshot(third), new int[180]);
+        int[] want = fullCells();
+        for (int k = 0; k < 36; k++) {
+            want[36 + k] = want[k] * 2;
+        }
+        second.scale(1, 0, 2);
+        third.put(0, 0, 0, 5);
+        third.transpose(1, 0);
+        due("1: the second, after calls on the third", snapshot(second), want);
+        due("1: the first, after calls on the others", snapshot(first), filledCells());
+        due("1: the count of the third", third.count(1), 1);
     }
 
     // Promise 2

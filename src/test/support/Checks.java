@@ -37,6 +37,12 @@ abstract class Checks {
         }
     }
 
+    protected static void due(String call, Object got, Object want) {
+        if (!got.equals(want)) {
+            tell(call, got.toString(), want.toString());
+        }
+    }
+
     protected static int flag(boolean answer) {
         return answer ? 1 : 0;
     }
